@@ -967,12 +967,10 @@ public final class NurseryPlaces {
         private boolean readNumber() {
             if (!isAtDigit()) return false;
             int number = signs[cursor] - '0';
-            cursor++;
-            while (isAtDigit()) {
+            for (cursor++; cursor < length && isAtDigit(); cursor++) {
                 int longer = number * 10 + signs[cursor] - '0';
                 if (number == 0 || longer > MAX_NUMBER) return false;
                 number = longer;
-                cursor++;
             }
             keepNumber(number);
             return true;

@@ -111,6 +111,13 @@ public final class AskingTest {
     private static void free(NurseryPlaces x) {
         int[] free = {1, 2, 1, 3, 1, 1, 2, 2, 4, 1};
         for (int i = 0; i < 10; i++) due("free(1, " + i + ")", x.free(1, i), free[i]);
+        NurseryPlaces full = new NurseryPlaces();
+        full.room(0, 72, 1, 1);
+        full.carer(0, 1, 0, 10);
+        full.child(1, 1, 3);
+        full.admit();
+        due("no place is left", full.free(0, 0), 0);
+        due("there never was one", full.free(0, 2), 0);
         due("free(2, 0)", x.free(2, 0), -1);
         due("free(-1, 0)", x.free(-1, 0), -1);
         due("free(1, 10)", x.free(1, 10), -1);

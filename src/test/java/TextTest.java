@@ -8,6 +8,7 @@ public final class TextTest {
         wipe();
         texts();
         faults();
+        oldSigns();
         longTexts();
         carryOut();
         carryOutUpToAnError();
@@ -87,11 +88,31 @@ public final class TextTest {
         }
     }
 
+    /** What stood on the pad before must not be read behind the end. */
+    private static void oldSigns() {
+        String[] orders = {"c1/2:3", "v1@2", "x1@2=3@4", "s12", "w12;a"};
+        for (String order : orders) {
+            for (int length = 0; length < order.length(); length++) {
+                NurseryPlaces x = new NurseryPlaces();
+                Texts.put(x, order);
+                x.wipe();
+                String text = order.substring(0, length);
+                Texts.put(x, text);
+                boolean isWhole = text.matches("[sw]12?");
+                due("fault of " + text + ", once " + order, x.fault(), isWhole ? -6 : length);
+            }
+        }
+    }
+
     private static void longTexts() {
         StringBuilder text = new StringBuilder("a");
         while (text.length() < 79) text.append(";a");
         due("40 orders", faultOf(text.toString()), -6);
         due("and a ;", faultOf(text + ";"), 80);
+        String start = text.substring(0, 74);
+        String[] ends = {"c11/11", "c1/11:", "x1@2=3", "v1023@", "v1111@", "v10231", "x1@2=@", "s!!!!!", "s"};
+        int[] faults = {80, 80, 80, 80, 78, 79, 79, 75, 75};
+        for (int i = 0; i < ends.length; i++) due("fault of " + start + ends[i], faultOf(start + ends[i]), faults[i]);
         NurseryPlaces x = new NurseryPlaces();
         due("carry 40 orders out", Texts.carryOut(x, text.toString()), 40);
         StringBuilder weeks = new StringBuilder("w52");

@@ -4,6 +4,7 @@ public final class UndoTest {
 
     public static void main(String[] args) {
         everyChange();
+        visits();
         errorsAreNoChanges();
         sixStates();
         sixStatesAndAnError();
@@ -11,6 +12,9 @@ public final class UndoTest {
         padAndSlotsStay();
         saveAndRestore();
         slotsAreTwo();
+        restoreOverAnother();
+        rowsOfUndoneCarers();
+        rowsOfUndoneChildren();
         CHECK.finish();
     }
 
@@ -83,17 +87,26 @@ public final class UndoTest {
             due("change " + kind + " is recorded", x.count(13), before + 1);
             due("change " + kind + " is undone", x.undo(), before);
             same("as before change " + kind, seen(x), seen);
+            x = nursery();
+            seen = seen(x);
+            change(x, kind);
+            due("change " + kind + " drops the oldest state", x.count(13), 6);
+            due("change " + kind + " is undone", x.undo(), 5);
+            same("as before change " + kind, seen(x), seen);
         }
+    }
+
+    private static void visits() {
         NurseryPlaces x = nursery();
-        x.undo();
-        x.undo();
-        x.undo();
+        due("child 3 is placed", x.admit(), 1);
         int[] seen = seen(x);
-        due("visit", x.visit(2, 8), 1);
-        due("undo the visit", x.undo(), 3);
+        due("visit", x.visit(3, 9), 2);
+        due("undo the visit", x.undo(), 5);
         same("as before the visit", seen(x), seen);
         x.admit();
-        due("a change that changes nothing is recorded", x.undo(), 3);
+        due("a change that changes nothing is recorded", x.count(13), 6);
+        due("undo it", x.undo(), 5);
+        same("as before", seen(x), seen);
     }
 
     private static void errorsAreNoChanges() {
@@ -223,6 +236,84 @@ public final class UndoTest {
         x.leave(0);
         due("a change behind it does not reach the slot", x.restore(0), 2);
         same("as it was saved", seen(x), seen);
+    }
+
+    /** All rows of the state that is restored differ from those that stood there. */
+    private static void restoreOverAnother() {
+        NurseryPlaces x = new NurseryPlaces();
+        x.save(1);
+        x.room(0, 40, 2, 1);
+        x.carer(0, 31, 0, 10);
+        x.carer(0, 31, 0, 10);
+        x.set(3, 0);
+        x.set(2, 1);
+        x.set(4, 5);
+        x.child(70, 9, 2);
+        x.child(10, 0, 1);
+        x.child(10, 1, 1);
+        x.admit();
+        x.weeks(2);
+        x.save(0);
+        int[] seen = seen(x);
+        x.restore(1);
+        due("an empty one", x.count(1) + x.count(2) + x.count(3), 0);
+        x.room(50, 72, 9, 9);
+        x.room(1, 2, 3, 4);
+        x.carer(1, 16, 3, 4);
+        x.carer(1, 8, 2, 5);
+        x.weeks(7);
+        for (int i = 0; i < 3; i++) x.child(60, 15, 1023);
+        x.child(60, 14, 1000);
+        x.admit();
+        x.sick(0);
+        x.sick(1);
+        due("restore", x.restore(0), 2);
+        same("as it was saved", seen(x), seen);
+        x.child(10, 0, 1);
+        x.sick(1);
+        x.weeks(1);
+        due("2 was placed last", x.ofChild(2, 10), 1);
+        due("1 came", x.ofChild(1, 9), 3);
+        due("0 came in week 0, and is patient", x.ofChild(0, 3), 0);
+        x.leave(1);
+        due("3 is placed behind 2", x.admit(), 1);
+        x.sick(1);
+        x.weeks(1);
+        due("3 was placed last", x.ofChild(3, 10), 1);
+        x.weeks(1);
+        due("0 is patient", x.ofChild(0, 3), 0);
+        x.weeks(1);
+        due("0 is not patient any more", x.ofChild(0, 3), 2);
+    }
+
+    private static void rowsOfUndoneCarers() {
+        NurseryPlaces x = new NurseryPlaces();
+        x.room(0, 72, 1, 1);
+        x.save(0);
+        x.carer(0, 31, 0, 10);
+        x.sick(0);
+        x.restore(0);
+        x.carer(0, 31, 0, 10);
+        due("a fresh carer is not sick", x.ofCarer(0, 4), 0);
+        due("sick", x.sick(0), 1);
+    }
+
+    private static void rowsOfUndoneChildren() {
+        NurseryPlaces x = new NurseryPlaces();
+        x.room(0, 72, 1, 1);
+        x.carer(0, 31, 0, 10);
+        x.set(3, 0);
+        x.save(0);
+        x.child(10, 0, 3);
+        x.admit();
+        x.weeks(1);
+        x.sick(0);
+        x.weeks(1);
+        due("it paid", x.ofChild(0, 11), 6000);
+        x.restore(0);
+        x.child(10, 0, 3);
+        for (int what = 9; what <= 12; what++) due("a fresh child: ofChild(0, " + what + ")", x.ofChild(0, what), 0);
+        due("no visits", x.ofChild(0, 7), 0);
     }
 
     private static void slotsAreTwo() {

@@ -7,6 +7,7 @@ public final class WeekTest {
         range();
         whoIsSentHome();
         visitsAreSentHomeFirst();
+        visitsGoHomeByTheirNumbers();
         placedLastIsNotTheGreatestNumber();
         fees();
         settling();
@@ -112,6 +113,47 @@ public final class WeekTest {
         due("no place at all: the visit too", x.ofChild(1, 10), 1);
         due("and both sessions of 0", x.ofChild(0, 10), 2);
         due("unsettled ones without a visit come to nothing", x.ofChild(2, 10), 1);
+    }
+
+    private static void visitsGoHomeByTheirNumbers() {
+        NurseryPlaces x = withCarers(1);
+        x.set(3, 1);
+        x.child(10, 0, 1);
+        x.admit();
+        x.set(3, 0);
+        x.child(10, 1, 1);
+        x.admit();
+        x.visit(0, 0);
+        due("a visit and a settled one", x.sentHome(-6), 0);
+        x.sick(0);
+        x.weeks(1);
+        due("both", x.count(10), 2);
+        x = withCarers(2);
+        x.set(3, 1);
+        x.child(10, 0, 1);
+        x.admit();
+        x.set(3, 0);
+        for (int i = 1; i < 3; i++) x.child(10, i, 1);
+        x.admit();
+        x.visit(0, 0);
+        x.sick(0);
+        x.set(3, 1);
+        x.weeks(1);
+        due("the visit goes before those that were placed later", x.ofChild(0, 10), 1);
+        due("1 stays", x.ofChild(1, 9), 1);
+        due("2 stays", x.ofChild(2, 9), 1);
+        x = withCarers(2);
+        x.set(3, 1);
+        x.child(10, 0, 1);
+        x.admit();
+        x.child(10, 1, 1);
+        x.child(10, 0, 1);
+        x.admit();
+        for (int i = 0; i < 3; i++) x.visit(i, 0);
+        x.sick(0);
+        x.weeks(1);
+        due("of the visits, the greatest number goes", x.ofChild(2, 10), 1);
+        due("not the one that was placed last", x.ofChild(1, 7), 1);
     }
 
     private static void placedLastIsNotTheGreatestNumber() {

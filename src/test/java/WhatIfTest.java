@@ -75,6 +75,7 @@ public final class WhatIfTest {
         due("2 for 4: a place of room 0 is not free, but 1 and 2 share it", x.partners(0, 2, 4), 2 + 4);
         x.leave(1);
         due("3 as well, when a place is free", x.partners(0, 2, 4), 4 + 8);
+        due("2 with 0", x.partners(2, 4, 2), 1);
         due("the same one", x.partners(0, 0, 0), 0);
         due("a session that it has not", x.partners(0, 1, 4), 0);
         due("a session that it has", x.partners(0, 0, 2), 0);
