@@ -3,6 +3,7 @@ final class Check {
     private static final int MOST_TOLD = 40;
 
     private final String test;
+    private String sentence = "";
     private int asked;
     private int wrong;
 
@@ -10,11 +11,16 @@ final class Check {
         this.test = test;
     }
 
+    /** Names the sentence of the document that the next answers belong to; QuotesTest looks it up there. */
+    void sentence(String section, String words) {
+        sentence = section + ", \"" + words + "\": ";
+    }
+
     void due(String call, long got, long want) {
         asked++;
         if (got == want) return;
         wrong++;
-        if (wrong <= MOST_TOLD) System.out.println(test + ": " + call + " answered " + got + ", due is " + want);
+        if (wrong <= MOST_TOLD) System.out.println(test + ": " + sentence + call + " answered " + got + ", due is " + want);
     }
 
     void that(String what, boolean holds) {
