@@ -318,6 +318,23 @@ public final class AdmissionBoundsTest {
         due("a settled child takes a place", x.visit(1, 0), -5);
         x.sick(0);
         due("the place with a sick carer is one", x.visit(1, 2), 1);
+        for (int first = 0; first < 2; first++) {
+            x = Nurseries.withPlaces(1);
+            x.child(10, 0, 1);
+            x.child(10, 1, 2);
+            x.admit();
+            due("whoever is first", x.visit(first, 9), 1);
+            due("takes the one place", x.visit(1 - first, 9), -5);
+        }
+        x = Nurseries.withPlaces(2);
+        x.child(10, 0, 1);
+        x.child(10, 1, 1);
+        x.admit();
+        x.visit(0, 9);
+        x.child(10, 2, 512);
+        x.child(10, 3, 512);
+        due("admission does not ask for visits", x.admit(), 2);
+        due("3 are taken of 2 now", x.visit(1, 9), -5);
     }
 
     private static void visitPlans() {

@@ -18,12 +18,8 @@ public final class QuotesTest {
     /** What stands in the document beside what is quoted: it names no boundary. */
     private static final List<String> WITHOUT_BOUNDARY = List.of(
         "Places in a nursery: rooms for bands of ages",
-        "A method that fails returns one of the error codes NO_SUCH (-1), BAD_VALUE (-2)",
         "Money is in cents.",
-        "(In parentheses: range; first value.)",
         "Sessions, rooms, carers",
-        "A week has 5 days of 10 hours each, and 10 sessions",
-        "A carer has a room, a set of days (1 to 31), and a shift",
         "A PLACED child has a room, sessions, and is settled or not.",
         "When a week passes:",
         "The constants: `NO_SUCH = -1",
@@ -68,7 +64,10 @@ public final class QuotesTest {
         }
         for (String section : document.keySet()) {
             for (String line : document.get(section)) {
-                for (String sentence : sentences(line)) CHECK.that("a test for, " + section + ": " + sentence, isQuoted(sentence, line, quotes.getOrDefault(section, List.of())));
+                for (String sentence : sentences(line)) {
+                    boolean isQuoted = isQuoted(sentence, line, quotes.getOrDefault(section, List.of()));
+                    CHECK.that("a test for, " + section + ": " + sentence, isQuoted || hasNoBoundary(sentence));
+                }
             }
         }
         CHECK.finish();
@@ -124,6 +123,10 @@ public final class QuotesTest {
             int from = line.indexOf(quote);
             if (from >= 0 && from <= at && from + quote.length() >= at + sentence.length() - 1) return true;
         }
+        return false;
+    }
+
+    private static boolean hasNoBoundary(String sentence) {
         return WITHOUT_BOUNDARY.stream().anyMatch(sentence::contains);
     }
 }

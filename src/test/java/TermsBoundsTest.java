@@ -435,5 +435,12 @@ public final class TermsBoundsTest {
         for (int i = 0; i < ages.length; i++) due("the room of " + ages[i] + " months", x.ofChild(i, 4), rooms[i]);
         x.child(15, 0, 3);
         due("it is room 0, though that is full", x.wouldGet(8), 0);
+        x = Nurseries.withRooms(5);
+        x.child(5, 0, 1);
+        x.set(2, 1);
+        due("no band of 5 rooms has 5 months", x.wouldGet(0), 0);
+        x.child(4, 0, 1);
+        x.carer(4, 31, 0, 10);
+        due("the last one has 4 months", x.wouldGet(1), 1);
     }
 }

@@ -20,6 +20,7 @@ public final class UndoBoundsTest {
         carryOutIsAChange();
         restoreIsAChange();
         everythingAsItWas();
+        undoneForGood();
         exceptPadAndSlots();
         atMostSixStates();
         alsoIfNothingIsDifferent();
@@ -35,6 +36,7 @@ public final class UndoBoundsTest {
         saveWeek();
         saveBadValue();
         restoreKeeps();
+        restoresEverything();
         restoreSlot();
         restoreWeek();
         restoreBadValue();
@@ -52,6 +54,14 @@ public final class UndoBoundsTest {
 
     private static void same(String what, NurseryPlaces x, NurseryPlaces y) {
         CHECK.that(what, Seen.of(x).equals(Seen.of(y)));
+    }
+
+    private static void sameButForTheHistory(String what, NurseryPlaces x, NurseryPlaces y) {
+        List<Integer> got = Seen.of(x);
+        List<Integer> want = Seen.of(y);
+        got.set(13, 0);
+        want.set(13, 0);
+        CHECK.that(what, got.equals(want));
     }
 
     /** As busy(), but carer 0 is not sick, and 5 changes can be undone. */
@@ -77,6 +87,9 @@ public final class UndoBoundsTest {
         change.on(x);
         due(call + " drops the oldest one of 6", x.count(13), 6);
         due(call + " is undone", x.undo(), 5);
+        y = Nurseries.busy();
+        if (y.count(12) != x.count(12)) y.wipe();
+        sameButForTheHistory("behind undo() all is as before " + call, x, y);
         due("the next one", x.undo(), 4);
         due("the sick carer, who was the latest change before " + call, x.ofCarer(0, 4), 0);
     }
@@ -200,14 +213,42 @@ public final class UndoBoundsTest {
         x.sick(0);
         x.weeks(1);
         due("0 was placed first, for its leaving was undone", x.ofChild(1, 10), 1);
-        x = new NurseryPlaces();
-        x.child(72, 15, 1023);
+    }
+
+    /** What was undone must not shine through in what comes in its place. */
+    private static void undoneForGood() {
+        CHECK.sentence("Promise 28", "is as it was before it.");
+        NurseryPlaces x = Nurseries.withCarers(1);
+        x.save(0);
+        x.child(10, 15, 1023);
+        x.admit();
         x.weeks(1);
-        x.undo();
-        x.undo();
+        x.sick(0);
+        x.weeks(1);
+        due("sent home from all sessions", x.ofChild(0, 10), 10);
+        x.restore(0);
         x.child(1, 2, 3);
         int[] child = {1, 2, 3, 0, -6, 0, 0, 0, -6, 0, 0, 0, 0};
         for (int what = 0; what < child.length; what++) due("ofChild(0, " + what + ") of one that came instead", x.ofChild(0, what), child[what]);
+        x = Nurseries.withCarers(1);
+        x.save(0);
+        x.carer(0, 31, 0, 10);
+        x.sick(1);
+        x.restore(0);
+        due("only carer 0 is there, and sick", x.sick(0), 1);
+        x.restore(0);
+        due("carer 1 comes", x.carer(0, 1, 2, 3), 1);
+        due("and is not sick", x.ofCarer(1, 4), 0);
+        due("sick(0)", x.sick(0), 1);
+        due("sick(1)", x.sick(1), 2);
+        x = new NurseryPlaces();
+        x.room(0, 10, 1, 1);
+        x.room(10, 20, 1, 1);
+        x.undo();
+        x.carer(0, 31, 0, 10);
+        x.child(15, 0, 3);
+        due("the room of its age is undone", x.wouldGet(0), 0);
+        due("so it is not placed", x.admit(), 0);
     }
 
     private static void exceptPadAndSlots() {
@@ -456,6 +497,70 @@ public final class UndoBoundsTest {
         x.weeks(1);
         due("1 was placed last", x.ofChild(1, 10), 1);
         due("0 was not", x.ofChild(0, 10), 0);
+    }
+
+    /** A small nursery, and one in which each row has other numbers. */
+    private static NurseryPlaces one(NurseryPlaces x) {
+        x.room(0, 40, 2, 1);
+        x.room(40, 50, 3, 2);
+        x.carer(0, 31, 0, 10);
+        x.carer(1, 7, 0, 5);
+        x.set(0, 1000);
+        x.set(3, 0);
+        x.child(10, 0, 3);
+        x.child(45, 1, 21);
+        x.admit();
+        x.weeks(3);
+        x.set(3, 4);
+        x.child(70, 5, 1);
+        return x;
+    }
+
+    private static NurseryPlaces other(NurseryPlaces x) {
+        x.room(5, 72, 9, 4);
+        x.room(1, 2, 4, 3);
+        x.carer(1, 30, 1, 9);
+        x.carer(0, 31, 0, 10);
+        for (int setting = 0; setting < 5; setting++) x.set(setting, 7 - setting);
+        x.weeks(2);
+        x.child(60, 9, 1023);
+        x.child(61, 8, 31);
+        x.child(62, 7, 5);
+        x.admit();
+        x.visit(0, 9);
+        x.sick(1);
+        return x;
+    }
+
+    private static void restoresEverything() {
+        CHECK.sentence("Promise 30", "Restores what was saved last in a slot");
+        NurseryPlaces x = new NurseryPlaces();
+        x.save(1);
+        one(x);
+        x.save(0);
+        x.restore(1);
+        other(x);
+        x.save(1);
+        x.restore(0);
+        sameButForTheHistory("what slot 0 keeps, over the other", x, one(new NurseryPlaces()));
+        x = new NurseryPlaces();
+        x.save(0);
+        one(x);
+        x.save(1);
+        x.restore(0);
+        other(x);
+        x.save(0);
+        x.restore(1);
+        x.restore(0);
+        sameButForTheHistory("the other, over what slot 1 keeps", x, other(new NurseryPlaces()));
+        x.undo();
+        sameButForTheHistory("undo() brings back what slot 1 keeps", x, one(new NurseryPlaces()));
+        x.weeks(9);
+        x.undo();
+        x.weeks(10);
+        NurseryPlaces y = one(new NurseryPlaces());
+        y.weeks(10);
+        sameButForTheHistory("and weeks pass as they would have", x, y);
     }
 
     private static void restoreSlot() {

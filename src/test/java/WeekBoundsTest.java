@@ -17,6 +17,7 @@ public final class WeekBoundsTest {
         visitsFirst();
         greatestNumberFirst();
         placedLast();
+        moversKeepTheirPlacing();
         pricePaid();
         discountForSiblings();
         visitThatTookPlaceCounts();
@@ -221,6 +222,27 @@ public final class WeekBoundsTest {
         due("0 stays", x.ofChild(0, 9), 2);
     }
 
+    private static void moversKeepTheirPlacing() {
+        CHECK.sentence("Terms", "this is its room then.");
+        NurseryPlaces x = new NurseryPlaces();
+        x.room(0, 12, 5, 5);
+        x.room(12, 72, 5, 1);
+        x.carer(0, 31, 0, 10);
+        x.carer(1, 31, 0, 10);
+        x.carer(1, 31, 0, 10);
+        x.set(2, 1);
+        x.set(3, 0);
+        x.child(11, 0, 1);
+        x.child(20, 1, 1);
+        x.admit();
+        x.weeks(4);
+        x.sick(1);
+        x.weeks(1);
+        due("both are in room 1", x.ofRoom(1, 5), 3);
+        due("1 was placed last: 0 has moved, but was not placed again", x.ofChild(1, 10), 1);
+        due("0 stays", x.ofChild(0, 10), 0);
+    }
+
     private static void pricePaid() {
         CHECK.sentence("Terms", "Each settled child that came pays PRICE for the session");
         NurseryPlaces x = Nurseries.withCarers(1);
@@ -282,6 +304,32 @@ public final class WeekBoundsTest {
         x.weeks(1);
         due("one that is not settled does not count", x.ofChild(1, 11), 3000);
         due("nor one of another family", x.ofChild(2, 11), 3000);
+        x = Nurseries.withTwoRooms(1);
+        x.child(20, 7, 1);
+        x.child(20, 7, 2);
+        x.child(20, 6, 1);
+        x.leave(0);
+        x.admit();
+        x.child(20, 6, 2);
+        x.child(5, 6, 1);
+        x.leave(1);
+        x.admit();
+        x.weeks(1);
+        due("2 has a lower number than 3 and 4", x.ofChild(2, 11), 3000);
+        due("3", x.ofChild(3, 11), 2400);
+        due("4, in another room", x.ofChild(4, 11), 2400);
+        x = Nurseries.withPlaces(1);
+        x.set(3, 0);
+        x.child(10, 9, 1);
+        x.admit();
+        x.child(10, 7, 1);
+        x.child(10, 7, 2);
+        x.admit();
+        x.leave(0);
+        due("1 is placed behind its sibling 2", x.admit(), 1);
+        x.weeks(1);
+        due("its number is lower", x.ofChild(1, 11), 3000);
+        due("2 pays less, though it was placed first", x.ofChild(2, 11), 2400);
     }
 
     private static void visitThatTookPlaceCounts() {
