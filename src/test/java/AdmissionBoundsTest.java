@@ -335,6 +335,17 @@ public final class AdmissionBoundsTest {
         x.child(10, 3, 512);
         due("admission does not ask for visits", x.admit(), 2);
         due("3 are taken of 2 now", x.visit(1, 9), -5);
+        for (int session = 0; session < 10; session++) {
+            x = new NurseryPlaces();
+            x.room(0, 72, 1, 1);
+            x.carer(0, 1, 0, 5);
+            x.carer(0, 16, 5, 10);
+            x.set(2, 1);
+            x.child(10, 0, 1);
+            x.admit();
+            boolean hasPlaces = session == 0 || session == 9;
+            due("there are places in the sessions 0 and 9 alone: visit(0, " + session + ")", x.visit(0, session), hasPlaces ? 1 : -5);
+        }
     }
 
     private static void visitPlans() {
@@ -530,6 +541,30 @@ public final class AdmissionBoundsTest {
         x.sick(0);
         x.sick(1);
         due("sick carers count", x.swap(0, 0, 1, 1), 1);
+        for (int free = 0; free < 4; free++) {
+            int inFirst = free % 2;
+            int inSecond = free / 2;
+            due("the child of the second room asks, free: " + inFirst + ", " + inSecond, inUnlikeRooms(inFirst, inSecond).swap(1, 1, 0, 0), free == 3 ? 1 : -5);
+            due("the rooms 3 and 2, free: " + inFirst + ", " + inSecond, inLastRooms(inFirst, inSecond).swap(0, 0, 1, 1), free == 3 ? 1 : -5);
+        }
+    }
+
+    /** As inUnlikeRooms(), but with the rooms 3 and 2, before which there are two for no child. */
+    private static NurseryPlaces inLastRooms(int freeInFirst, int freeInSecond) {
+        NurseryPlaces x = new NurseryPlaces();
+        x.room(70, 71, 1, 12);
+        x.room(71, 72, 1, 12);
+        x.room(12, 70, 1 + freeInSecond, 12);
+        x.room(0, 12, 1 + freeInFirst, 12);
+        x.carer(2, 31, 0, 10);
+        x.carer(3, 31, 0, 10);
+        x.set(2, 1);
+        x.child(5, 0, 1);
+        x.child(20, 1, 2);
+        x.child(5, 2, 2);
+        x.child(20, 3, 1);
+        x.admit();
+        return x;
     }
 
     private static void swapInOneRoom() {

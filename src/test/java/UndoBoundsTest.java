@@ -20,6 +20,7 @@ public final class UndoBoundsTest {
         carryOutIsAChange();
         restoreIsAChange();
         everythingAsItWas();
+        whoWasPlacedLast();
         undoneForGood();
         exceptPadAndSlots();
         atMostSixStates();
@@ -213,6 +214,36 @@ public final class UndoBoundsTest {
         x.sick(0);
         x.weeks(1);
         due("0 was placed first, for its leaving was undone", x.ofChild(1, 10), 1);
+    }
+
+    private static void whoWasPlacedLast() {
+        CHECK.sentence("Promise 28", "is as it was before it.");
+        for (int undone = 0; undone < 2; undone++) {
+            NurseryPlaces x = new NurseryPlaces();
+            x.room(0, 12, 40, 4);
+            x.room(12, 72, 40, 2);
+            x.carer(0, 31, 0, 10);
+            x.carer(1, 31, 0, 10);
+            x.carer(1, 31, 0, 10);
+            x.set(3, 0);
+            x.set(2, 1);
+            for (int i = 0; i < 3; i++) x.child(11, 9 - i, 1);
+            x.admit();
+            x.set(2, 10);
+            x.weeks(4);
+            x.set(2, 1);
+            due("three wait again, and are placed for the second time", x.admit(), 3);
+            if (undone == 1) {
+                x.set(0, 1);
+                x.undo();
+            }
+            x.child(12, 5, 1);
+            x.admit();
+            x.sick(2);
+            x.weeks(1);
+            int[] home = {0, 0, 1, 1};
+            for (int i = 0; i < 4; i++) due("3 was placed last, then 2, with " + undone + " undo(): child " + i, x.ofChild(i, 10), home[i]);
+        }
     }
 
     /** What was undone must not shine through in what comes in its place. */

@@ -13,7 +13,9 @@ public final class WeekBoundsTest {
         weeksThen();
         weeksBadValue();
         thoseWhoCome();
+        eachRoomAndSession();
         untilTheyAreNotMore();
+        sentHomeOfAllThatThereCanBe();
         visitsFirst();
         greatestNumberFirst();
         placedLast();
@@ -136,6 +138,31 @@ public final class WeekBoundsTest {
         due("each came to its own room", x.ofChild(0, 9) + x.ofChild(1, 9), 2);
     }
 
+    private static void eachRoomAndSession() {
+        CHECK.sentence("Terms", "In each room and session (rooms, then sessions, in ascending order)");
+        for (int room = 0; room < 5; room++) {
+            for (int session = 0; session < 10; session++) {
+                NurseryPlaces x = new NurseryPlaces();
+                for (int i = 0; i < 5; i++) x.room(i == room ? 10 : 30, i == room ? 11 : 31, 40, 1);
+                x.carer(room, 31, 0, 10);
+                x.set(2, 1);
+                x.set(3, 0);
+                x.child(10, 0, 1 << session);
+                due("one child in room " + room + ", session " + session, x.admit(), 1);
+                due("its room", x.ofChild(0, 4), room);
+                x.weeks(1);
+                due("came", x.ofChild(0, 9), 1);
+                due("paid", x.count(8), 3000);
+                due("would be sent home", x.sentHome(0), 1);
+                x.sick(0);
+                x.weeks(1);
+                due("was sent home", x.ofChild(0, 10), 1);
+                x.weeks(2);
+                due("is too old for its room then", x.ofChild(0, 3), 2);
+            }
+        }
+    }
+
     private static void untilTheyAreNotMore() {
         CHECK.sentence("Terms", "If they are more than the places without sick carers, some are sent home, until they are not more");
         for (int sick = 0; sick <= 4; sick++) {
@@ -158,6 +185,28 @@ public final class WeekBoundsTest {
         x.weeks(1);
         due("without carer 1 nobody is there in hour 9", x.ofChild(0, 10), 1);
         due("but in all hours of session 0", x.ofChild(0, 9), 1);
+    }
+
+    private static void sentHomeOfAllThatThereCanBe() {
+        CHECK.sentence("Terms", "some are sent home, until they are not more");
+        NurseryPlaces x = Nurseries.withPlaces(24);
+        x.set(3, 0);
+        for (int i = 0; i < 24; i++) x.child(10, i % 16, 1);
+        due("admit()", x.admit(), 24);
+        x.sick(0);
+        due("sentHome(NONE)", x.sentHome(-6), 12);
+        due("sentHome(1)", x.sentHome(1), 24);
+        x.weeks(1);
+        due("12 of 24 were sent home", x.count(10), 12);
+        for (int i = 0; i < 24; i++) {
+            boolean isEarly = i <= 5 || i >= 16 && i <= 21;
+            due("0 to 5 were placed first, each with its sibling behind it: child " + i, x.ofChild(i, 10), isEarly ? 0 : 1);
+        }
+        x.sick(0);
+        x.sick(1);
+        x.weeks(1);
+        due("then all 24", x.count(10), 36);
+        due("nobody paid for that week", x.count(8), 6 * 3000 + 6 * 2400);
     }
 
     private static void visitsFirst() {
@@ -577,6 +626,16 @@ public final class WeekBoundsTest {
         due("in the room of its age", x.ofChild(0, 4), 1);
         due("and is not settled", x.ofChild(0, 6), 0);
         due("it needs a visit again", x.visit(0, 0), 1);
+        x = Nurseries.withTwoRooms(1);
+        x.child(20, 0, 1);
+        x.child(11, 1, 1);
+        x.admit();
+        x.sick(0);
+        x.weeks(1);
+        due("sent home once", x.ofChild(1, 10), 1);
+        x.weeks(3);
+        due("it waits again", x.ofChild(1, 3), 0);
+        due("and was sent home once", x.ofChild(1, 10), 1);
     }
 
     private static void inAscendingOrder() {
